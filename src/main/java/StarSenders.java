@@ -886,7 +886,7 @@ public final class StarSenders {
             if (place >= length) {
                 return length;
             }
-            while (place < length && orders < ORDER_ROOM) {
+            for (int k = 0; k < ORDER_ROOM && place < length; k++) {
                 if (!readOrder(senderCount, gateCount)) {
                     return place;
                 }

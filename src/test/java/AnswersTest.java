@@ -20,30 +20,13 @@ public final class AnswersTest {
         due.end();
     }
 
-    private static StarSenders oneGate(int rate, int power, int gain) {
-        StarSenders x = new StarSenders();
-        x.sets(1, 1);
-        x.sender(0, 3, 1);
-        x.sender(0, 0, rate);
-        x.sender(0, 1, power);
-        x.gain(0, 0, gain);
-        return x;
-    }
-
-    private static void takeLetters(StarSenders x, int i, int n) {
-        for (int k = 0; k < n; k++) {
-            x.sends(i);
-            due.is("ticks(4)", x.ticks(4), 1);
-        }
-    }
-
     private static void tunes(String when, int rate, int power, int gain, int rateDue, int powerDue) {
-        StarSenders x = oneGate(rate, power, gain);
+        StarSenders x = Due.oneGate(rate, power, gain);
         int cost = 6 - rate;
         boolean otherwise = rate != rateDue || power != powerDue;
-        takeLetters(x, 0, 3);
+        due.taking(x, 0, 3);
         due.senderIs(when + ", ahead", x, 0, rate, power, 3, 1, 2, 3);
-        takeLetters(x, 0, 1);
+        due.taking(x, 0, 1);
         due.senderIs(when, x, 0, rateDue, powerDue, 4, 1, 3, otherwise ? 0 : 4, 4, 0);
         due.gateIs(when, x, 0, 4, otherwise ? 1 : 0, otherwise ? 10 - cost : 10, 4);
         due.is(when + ": ANSWERS", x.all(5), otherwise ? 1 : 0);
@@ -102,33 +85,33 @@ public final class AnswersTest {
 
     private static void greatestOfTheFourCounts() {
         for (int k = 0; k < 4; k++) {
-            StarSenders x = oneGate(0, 4, 0);
+            StarSenders x = Due.oneGate(0, 4, 0);
             for (int letter = 0; letter < 4; letter++) {
                 x.gain(0, 0, letter == k ? 8 : 0);
-                takeLetters(x, 0, 1);
+                due.taking(x, 0, 1);
             }
             due.senderIs("16 less 6", x, 0, 2, 4);
         }
     }
 
     private static void nothingOtherwise() {
-        StarSenders x = oneGate(0, 3, 1);
-        takeLetters(x, 0, 6);
+        StarSenders x = Due.oneGate(0, 3, 1);
+        due.taking(x, 0, 6);
         due.senderIs("7 less 6", x, 0, 0, 3, 6, 1, 5, 4, 6, 0);
         x.gain(0, 0, 2);
-        takeLetters(x, 0, 1);
+        due.taking(x, 0, 1);
         due.senderIs("8 less 6", x, 0, 0, 2, 7, 1, 6, 0, 7, 0);
-        StarSenders y = oneGate(0, 3, 2);
-        takeLetters(y, 0, 3);
+        StarSenders y = Due.oneGate(0, 3, 2);
+        due.taking(y, 0, 3);
         y.sender(0, 1, 0);
         y.gain(0, 0, 0);
-        takeLetters(y, 0, 1);
+        due.taking(y, 0, 1);
         due.senderIs("8 less 6 but POWER is 0 already", y, 0, 0, 0, 4, 1, 3, 4, 4, 0);
-        takeLetters(y, 0, 3);
+        due.taking(y, 0, 3);
         due.marginsAre("one is asked each time", y, 0);
         due.senderIs("0 less 6", y, 0, 0, 3);
-        StarSenders z = oneGate(5, 0, 25);
-        takeLetters(z, 0, 3);
+        StarSenders z = Due.oneGate(5, 0, 25);
+        due.taking(z, 0, 3);
         z.sends(0);
         z.sender(0, 0, 0);
         z.sender(0, 1, 4);
@@ -138,15 +121,15 @@ public final class AnswersTest {
     }
 
     private static void lostAnswerTakesTheMargins() {
-        StarSenders x = oneGate(0, 4, 20);
+        StarSenders x = Due.oneGate(0, 4, 20);
         x.gate(0, 1, 5);
-        takeLetters(x, 0, 4);
+        due.taking(x, 0, 4);
         due.senderIs("LOST", x, 0, 0, 4, 4, 1, 3, 0, 4, 0);
         due.is("LOST", x.all(6), 1);
         due.is("ANSWERS", x.all(5), 0);
         due.gateIs("LOST", x, 0, 4, 0, 5, 4);
         x.gate(0, 1, 6);
-        takeLetters(x, 0, 4);
+        due.taking(x, 0, 4);
         due.senderIs("answered", x, 0, 4, 3);
         due.gateIs("answered", x, 0, 8, 1, 0, 8);
     }
@@ -216,15 +199,15 @@ public final class AnswersTest {
             x.ticks(4);
             due.is("at RATE " + rate, x.at(0, 2), 10 - (6 - rate));
         }
-        StarSenders x = oneGate(1, 4, 60);
-        takeLetters(x, 0, 4);
+        StarSenders x = Due.oneGate(1, 4, 60);
+        due.taking(x, 0, 4);
         due.is("RATE behind", x.of(0, 0), 5);
         due.is("cost by RATE ahead", x.at(0, 2), 5);
     }
 
     private static void answerToOneNotJoined() {
-        StarSenders x = oneGate(0, 4, 20);
-        takeLetters(x, 0, 3);
+        StarSenders x = Due.oneGate(0, 4, 20);
+        due.taking(x, 0, 3);
         x.sends(0);
         x.ticks(1);
         x.renews(0);

@@ -2,20 +2,29 @@
 final class Due {
     private int wrong = 0;
     private int looked = 0;
+    private String sentence = "";
+
+    /** The document's words that the answers looked at from now on hold; printed with a wrong one. */
+    void sentence(String words) {
+        sentence = words;
+    }
+
+    private void tellsWrong(String what) {
+        wrong++;
+        System.out.println((sentence.isEmpty() ? "" : "[" + sentence + "] ") + what);
+    }
 
     void is(String call, long got, long want) {
         looked++;
         if (got != want) {
-            wrong++;
-            System.out.println(call + " answered " + got + ", due is " + want);
+            tellsWrong(call + " answered " + got + ", due is " + want);
         }
     }
 
     void holds(String what, boolean so) {
         looked++;
         if (!so) {
-            wrong++;
-            System.out.println("does not hold: " + what);
+            tellsWrong("does not hold: " + what);
         }
     }
 
@@ -83,6 +92,25 @@ final class Due {
             x.sender(i, 3, 1);
         }
         return x;
+    }
+
+    /** With one gate, which hears sender 0 at gain and 2 power less 5 rate; he is joined. */
+    static StarSenders oneGate(int rate, int power, int gain) {
+        StarSenders x = new StarSenders();
+        x.sets(1, 1);
+        x.sender(0, 3, 1);
+        x.sender(0, 0, rate);
+        x.sender(0, 1, power);
+        x.gain(0, 0, gain);
+        return x;
+    }
+
+    /** Letters of a sender, each of which is taken ahead of the next. */
+    void taking(StarSenders x, int i, int letters) {
+        for (int k = 0; k < letters; k++) {
+            x.sends(i);
+            is("ticks(4)", x.ticks(4), 1);
+        }
     }
 
     void end() {

@@ -1,9 +1,13 @@
 import java.util.Random;
 
-/** Drawn runs of calls, each answer held against the slow model's; the seeds are fixed. */
+/**
+ * Drawn runs of calls, each answer held against the slow model's; the seeds are fixed. A run has 512
+ * calls, as the document lets what later ones answer be free.
+ */
 public final class ModelTest {
     private static final Due due = new Due();
-    private static final int RUNS = 1500;
+    private static final int RUNS = 8000;
+    private static final int CALLS = 512;
     private static final int[] WILD = {Integer.MIN_VALUE, Integer.MIN_VALUE + 1, -1000, -65, -2, -1, 61, 100, 120, 128,
         1000, 1000000, Integer.MAX_VALUE - 1, Integer.MAX_VALUE};
 
@@ -12,6 +16,7 @@ public final class ModelTest {
     private final Model model = new Model();
     private final int run;
     private final int style;
+    private int calls;
 
     private ModelTest(int run) {
         this.run = run;
@@ -20,16 +25,12 @@ public final class ModelTest {
     }
 
     public static void main(String[] args) {
-        new ModelTest(0).opensAsManyWindowsAsCanBe();
         int[] seen = new int[9];
         for (int run = 0; run < RUNS; run++) {
             ModelTest t = new ModelTest(run);
             t.prepare();
-            for (int call = 0; call < 500; call++) {
-                t.oneCall();
-                if (call % 10 == 9) {
-                    t.readsAgree();
-                }
+            while (t.calls < CALLS) {
+                t.oneStep();
             }
             for (int what = 0; what < 9; what++) {
                 seen[what] += t.model.all(what);
@@ -41,52 +42,72 @@ public final class ModelTest {
         due.end();
     }
 
-    /** Once counter 31 is taken, 32 .. 63 may open while 0 .. 30, opened behind it, are open still. */
-    private void opensAsManyWindowsAsCanBe() {
-        int[][] settings = {{0, 6}, {1, 1}, {2, 9}};
-        for (int[] s : settings) {
-            is("sets", x.sets(s[0], s[1]), model.sets(s[0], s[1]));
+    /** One call on both; behind the last that an object is used for it does nothing. */
+    private void same(String name, int... a) {
+        if (calls == CALLS) {
+            return;
         }
-        for (int i = 0; i < 6; i++) {
-            is("gain", x.gain(i, 0, 60), model.gain(i, 0, 60));
-            is("sender", x.sender(i, 3, 1), model.sender(i, 3, 1));
+        calls++;
+        long got = onClass(name, a);
+        long want = onModel(name, a);
+        if (got != want) {
+            due.is("run " + run + ", call " + calls + ": " + name + java.util.Arrays.toString(a)
+                + (name.equals("does") ? " of '" + model.text + "'" : ""), got, want);
+        } else {
+            due.is(name, got, want);
         }
-        sendAllFrom(31, 31);
-        pass(5);
-        for (int from = 0; from <= 30; from += 8) {
-            sendAllFrom(from, Math.min(from + 7, 30));
-        }
-        is("LAST", x.of(5, 4), 31);
-        for (int from = 32; from <= 63; from += 8) {
-            sendAllFrom(from, from + 7);
-        }
-        for (int i = 0; i < 6; i++) {
-            is("sender", x.sender(i, 3, 0), model.sender(i, 3, 0));
-            is("sends", x.sends(i), model.sends(i));
-        }
-        pass(1);
-        is("WINDOWS", x.all(1), 6 * (31 + 32 + 1));
-        readsAgree();
-        for (int k = 0; k < 20; k++) {
-            pass(1);
-            readsAgree();
-        }
-        is("none refused", x.told(0) + x.told(1) + x.told(2), 0);
     }
 
-    private void sendAllFrom(int from, int to) {
-        for (int i = 0; i < 6; i++) {
-            is("sender", x.sender(i, 2, from), model.sender(i, 2, from));
-            for (int letter = from; letter <= to; letter++) {
-                is("sends", x.sends(i), model.sends(i));
-            }
-        }
-        pass(1);
+    private long onClass(String name, int[] a) {
+        return switch (name) {
+            case "sets" -> x.sets(a[0], a[1]);
+            case "gate" -> x.gate(a[0], a[1], a[2]);
+            case "gain" -> x.gain(a[0], a[1], a[2]);
+            case "draw" -> x.draw(a[0]);
+            case "sender" -> x.sender(a[0], a[1], a[2]);
+            case "sends" -> x.sends(a[0]);
+            case "again" -> x.again(a[0]);
+            case "ticks" -> x.ticks(a[0]);
+            case "renews" -> x.renews(a[0]);
+            case "of" -> x.of(a[0], a[1]);
+            case "margin" -> x.margin(a[0], a[1]);
+            case "hears" -> x.hears(a[0], a[1]);
+            case "at" -> x.at(a[0], a[1]);
+            case "all" -> x.all(a[0]);
+            case "window" -> x.window(a[0], a[1]);
+            case "copy" -> x.copy(a[0], a[1]);
+            case "type" -> x.type(a[0]);
+            case "clear" -> x.clear();
+            case "does" -> x.does();
+            case "told" -> x.told(a[0]);
+            default -> x.digest();
+        };
     }
 
-    private void pass(int m) {
-        is("ticks(" + m + ")", x.ticks(m), model.ticks(m));
-        is("digest()", x.digest(), model.digest());
+    private long onModel(String name, int[] a) {
+        return switch (name) {
+            case "sets" -> model.sets(a[0], a[1]);
+            case "gate" -> model.gate(a[0], a[1], a[2]);
+            case "gain" -> model.gain(a[0], a[1], a[2]);
+            case "draw" -> model.draw(a[0]);
+            case "sender" -> model.sender(a[0], a[1], a[2]);
+            case "sends" -> model.sends(a[0]);
+            case "again" -> model.again(a[0]);
+            case "ticks" -> model.ticks(a[0]);
+            case "renews" -> model.renews(a[0]);
+            case "of" -> model.of(a[0], a[1]);
+            case "margin" -> model.margin(a[0], a[1]);
+            case "hears" -> model.hears(a[0], a[1]);
+            case "at" -> model.at(a[0], a[1]);
+            case "all" -> model.all(a[0]);
+            case "window" -> model.window(a[0], a[1]);
+            case "copy" -> model.copy(a[0], a[1]);
+            case "type" -> model.type(a[0]);
+            case "clear" -> model.clear();
+            case "does" -> model.does();
+            case "told" -> model.told(a[0]);
+            default -> model.digest();
+        };
     }
 
     private int upTo(int most) {
@@ -102,116 +123,89 @@ public final class ModelTest {
         return kind == 1 ? random.nextBoolean() ? -1 : most + 1 : upTo(most);
     }
 
-    private void is(String call, long got, long want) {
-        due.is("run " + run + ": " + call, got, want);
-    }
-
     private void prepare() {
-        int n = 1 + upTo(5);
-        int g = 1 + upTo(3);
-        int w = 1 + upTo(8);
-        is("sets", x.sets(0, n), model.sets(0, n));
-        is("sets", x.sets(1, g), model.sets(1, g));
-        is("sets", x.sets(2, w), model.sets(2, w));
+        same("sets", 0, 1 + upTo(5));
+        same("sets", 1, 1 + upTo(3));
+        same("sets", 2, 1 + upTo(8));
         if (style == 1) {
-            for (int i = 0; i < n; i++) {
-                is("sender", x.sender(i, 3, 1), model.sender(i, 3, 1));
+            for (int i = 0; i < model.n; i++) {
+                same("sender", i, 3, 1);
             }
         }
         if (style != 0) {
-            int seed = upTo(999999);
-            is("draw", x.draw(seed), model.draw(seed));
+            same("draw", upTo(999999));
         }
         if (style == 2) {
-            is("gate", x.gate(0, 1, 40), model.gate(0, 1, 40));
+            same("gate", 0, 1, 40);
         }
     }
 
-    private void oneCall() {
+    private void oneStep() {
         int kind = random.nextInt(100);
-        if (kind < 35) {
+        if (kind < 40) {
             days();
-        } else if (kind < 60) {
-            passing();
-        } else if (kind < 75) {
+        } else if (kind < 65) {
+            same("ticks", random.nextInt(30) == 0 ? about(99) : 1 + upTo(4));
+        } else if (kind < 80) {
             telling();
-        } else if (kind < 92) {
+        } else if (kind < 86) {
             texting();
-        } else {
+        } else if (kind < 95) {
             asking();
+        } else {
+            looking();
         }
-        is("digest()", x.digest(), model.digest());
+        if (random.nextInt(3) == 0 || calls == CALLS - 1) {
+            same("digest");
+        }
     }
 
     private void days() {
         int i = about(model.n - 1);
-        if (random.nextInt(4) > 0) {
-            is("sends(" + i + ")", x.sends(i), model.sends(i));
-        } else {
-            is("again(" + i + ")", x.again(i), model.again(i));
+        int times = random.nextInt(20) == 0 ? 30 : 1;
+        for (int k = 0; k < times; k++) {
+            same(random.nextInt(4) > 0 ? "sends" : "again", i);
         }
-    }
-
-    private void passing() {
-        int m = random.nextInt(30) == 0 ? about(99) : 1 + upTo(4);
-        is("ticks(" + m + ")", x.ticks(m), model.ticks(m));
     }
 
     private void telling() {
         int i = about(model.n - 1);
         int j = about(model.g - 1);
-        switch (random.nextInt(12)) {
-            case 0, 1: {
-                int what = about(1);
-                int v = about(what == 0 ? 5 : 40);
-                is("gate", x.gate(j, what, v), model.gate(j, what, v));
-                break;
-            }
-            case 2, 3, 4: {
-                int v = about(60);
-                is("gain", x.gain(i, j, v), model.gain(i, j, v));
-                break;
-            }
-            case 5, 6, 7, 8: {
-                int what = about(3);
-                int v = about(what == 0 ? 5 : what == 1 ? 4 : what == 2 ? 63 : 1);
-                is("sender", x.sender(i, what, v), model.sender(i, what, v));
-                break;
-            }
-            case 9:
-                is("renews", x.renews(i), model.renews(i));
-                break;
-            case 10: {
-                int seed = about(999999);
-                is("draw", x.draw(seed), model.draw(seed));
-                break;
-            }
-            default: {
-                int what = random.nextInt(5) == 0 ? about(2) : 3;
-                int v = about(9);
-                is("sets", x.sets(what, v), model.sets(what, v));
-            }
+        int kind = random.nextInt(12);
+        if (kind < 2) {
+            int what = about(1);
+            same("gate", j, what, about(what == 0 ? 5 : 40));
+        } else if (kind < 5) {
+            same("gain", i, j, about(60));
+        } else if (kind < 9) {
+            int what = about(3);
+            same("sender", i, what, about(what == 0 ? 5 : what == 1 ? 4 : what == 2 ? 63 : 1));
+        } else if (kind == 9) {
+            same("renews", i);
+        } else if (kind == 10) {
+            same("draw", about(999999));
+        } else {
+            same("sets", random.nextInt(5) == 0 ? about(2) : 3, about(9));
         }
     }
 
     private void texting() {
         if (random.nextInt(20) == 0) {
-            int c = about(127);
-            is("type", x.type(c), model.type(c));
+            same("type", about(127));
         }
         if (random.nextInt(3) > 0) {
             String text = drawnText();
-            is("clear()", x.clear(), model.clear());
+            same("clear");
             for (int k = 0; k < text.length(); k++) {
-                is("type", x.type(text.charAt(k)), model.type(text.charAt(k)));
+                same("type", text.charAt(k));
             }
         }
-        is("does() of '" + model.text + "'", x.does(), model.does());
+        same("does");
     }
 
     private String drawnText() {
         StringBuilder b = new StringBuilder();
-        int orders = random.nextInt(6) == 0 ? 45 : upTo(8);
+        int orders = random.nextInt(8) == 0 ? 45 : upTo(6);
         boolean burst = random.nextInt(3) == 0;
         boolean tight = random.nextInt(3) == 0;
         for (int k = 0; k < orders; k++) {
@@ -256,38 +250,29 @@ public final class ModelTest {
     }
 
     private void asking() {
-        int i = about(model.n - 1);
-        int j = about(model.g - 1);
-        int k = about(9);
-        int what = about(8);
-        is("of", x.of(i, what), model.of(i, what));
-        is("margin", x.margin(i, k), model.margin(i, k));
-        is("hears", x.hears(i, j), model.hears(i, j));
-        is("at", x.at(j, what), model.at(j, what));
-        is("all", x.all(what), model.all(what));
-        is("window", x.window(k, what), model.window(k, what));
-        is("copy", x.copy(k, what), model.copy(k, what));
-        is("told", x.told(what), model.told(what));
+        switch (random.nextInt(8)) {
+            case 0: same("of", about(model.n - 1), about(7)); break;
+            case 1: same("margin", about(model.n - 1), about(4)); break;
+            case 2: same("hears", about(model.n - 1), about(model.g - 1)); break;
+            case 3: same("at", about(model.g - 1), about(3)); break;
+            case 4: same("all", about(8)); break;
+            case 5: same("window", about(model.windows.size()), about(3)); break;
+            case 6: same("copy", about(model.copies.size()), about(2)); break;
+            default: same("told", about(6)); break;
+        }
     }
 
-    private void readsAgree() {
-        for (int i = 0; i < model.n; i++) {
-            for (int k = 0; k <= 4; k++) {
-                is("margin", x.margin(i, k), model.margin(i, k));
-            }
-            for (int j = 0; j < model.g; j++) {
-                is("hears", x.hears(i, j), model.hears(i, j));
-            }
+    /** What the digest does not tell: a sender's margins, a window, a copy. */
+    private void looking() {
+        int i = upTo(model.n - 1);
+        int window = upTo(model.windows.size());
+        int copy = upTo(model.copies.size());
+        for (int k = 0; k < 4; k++) {
+            same("margin", i, k);
+            same("window", window, k);
         }
-        for (int k = 0; k <= model.windows.size(); k++) {
-            for (int what = 0; what <= 3; what++) {
-                is("window(" + k + ", " + what + ")", x.window(k, what), model.window(k, what));
-            }
-        }
-        for (int k = 0; k <= model.copies.size(); k++) {
-            for (int what = 0; what <= 2; what++) {
-                is("copy(" + k + ", " + what + ")", x.copy(k, what), model.copy(k, what));
-            }
+        for (int what = 0; what < 3; what++) {
+            same("copy", copy, what);
         }
     }
 }

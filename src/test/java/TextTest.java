@@ -231,8 +231,9 @@ public final class TextTest {
         }
         due.doing(x, blanks + "+4;", 32);
         due.doing(x, "+4;" + blanks, 0);
-        faults(x, blanks + "s00", 119);
-        faults(x, blanks + "   ", 120);
+        StarSenders y = new StarSenders();
+        faults(y, blanks + "s00", 119);
+        faults(y, blanks + "   ", 120);
     }
 
     private static void told() {
