@@ -9,6 +9,7 @@ public final class CallEdgesTest {
         newObject();
         setsLeavesFiveThings();
         setsToWhatItIs();
+        setsForgetsEveryCount();
         setsBringsBackWhatWasBeyond();
         drawsAtTheEdges();
         drawsForEachSenderAndGate();
@@ -26,6 +27,7 @@ public final class CallEdgesTest {
         atCounts();
         mergedCounts();
         windowsNotSoMany();
+        windowsMoveUp();
         copiesNotSoMany();
         digestOfANewOne();
         digestOfEachValue();
@@ -121,6 +123,43 @@ public final class CallEdgesTest {
         }
     }
 
+    /** Each number that can be asked for has become another one; then all are as at first. */
+    private static void setsForgetsEveryCount() {
+        due.sentence("all else .. as at first");
+        for (int what = 0; what < 3; what++) {
+            StarSenders x = new StarSenders();
+            x.sets(1, 1);
+            x.sends(0);
+            x.ticks(4);
+            x.sender(0, 2, 9);
+            due.taking(x, 0, 1);
+            x.again(0);
+            x.sends(1);
+            x.ticks(4);
+            x.sender(0, 0, 1);
+            x.sender(0, 1, 2);
+            x.sends(0);
+            x.ticks(1);
+            x.again(0);
+            x.ticks(1);
+            x.sends(0);
+            for (int k = 0; k <= 8; k++) {
+                due.holds("all(" + k + ") is something", x.all(k) > 0);
+            }
+            int[] of = {1, 2, 12, 1, 9, 1, 1, 9};
+            due.senderIs("something", x, 0, of);
+            due.gateIs("something", x, 0, 7, 1, 4, 1);
+            int was = x.told(4 + what);
+            due.is("sets", x.sets(what, was), was);
+            due.is("all is as at first", x.digest(), digestOfNew(3, 1, 3));
+            due.is("no WINDOW", x.window(0, 0), -1);
+            due.is("no copy", x.copy(0, 0), -1);
+            due.is("no MARGIN", x.margin(0, 0), -1000);
+            due.is("a JOINING is sent", x.sends(0), 1);
+            due.is("and taken at 4", x.ticks(3) * 10 + x.ticks(1), 1);
+        }
+    }
+
     private static void setsBringsBackWhatWasBeyond() {
         due.sentence("n (what 0), g (1) .. become v, all else .. as at first");
         StarSenders x = new StarSenders();
@@ -156,14 +195,38 @@ public final class CallEdgesTest {
         due.is("GAIN", x.gain(0, 0, 7), 0);
         due.is("draw(1)", x.draw(1), 2);
         due.is("GAIN", x.gain(0, 0, 7), 2);
-        java.math.BigInteger far = java.math.BigInteger.valueOf(999999).multiply(java.math.BigInteger.valueOf(1103515245))
-            .add(java.math.BigInteger.valueOf(12345)).mod(java.math.BigInteger.valueOf(2147483648L));
-        int wanted = far.intValueExact() / 65536 % 61;
+        int wanted = drawnBy(999999, 1)[0];
         due.is("draw(999999)", x.draw(999999), wanted);
         due.is("GAIN", x.gain(0, 0, 7), wanted);
         due.is("draw(-1)", x.draw(-1), -2);
         due.is("draw(1000000)", x.draw(1000000), -2);
         due.is("GAIN stays", x.gain(0, 0, 7), 7);
+        // the first X that is just at, and just below, a whole number of 65536
+        for (int seed : new int[] {seedThatLeaves(0), seedThatLeaves(65535)}) {
+            due.is("draw(" + seed + ")", x.draw(seed), drawnBy(seed, 1)[0]);
+        }
+    }
+
+    /** A seed whose first X, by 65536, leaves this over: cutting is not rounding. */
+    private static int seedThatLeaves(int rest) {
+        for (int seed = 0; seed <= 999999; seed++) {
+            if (((seed * 1103515245L + 12345) & 65535) == rest) {
+                return seed;
+            }
+        }
+        due.holds("there is such a seed", false);
+        return 0;
+    }
+
+    private static int[] drawnBy(int seed, int many) {
+        java.math.BigInteger drawn = java.math.BigInteger.valueOf(seed);
+        int[] gains = new int[many];
+        for (int k = 0; k < many; k++) {
+            drawn = drawn.multiply(java.math.BigInteger.valueOf(1103515245)).add(java.math.BigInteger.valueOf(12345))
+                .mod(java.math.BigInteger.valueOf(2147483648L));
+            gains[k] = drawn.intValueExact() / 65536 % 61;
+        }
+        return gains;
     }
 
     private static void drawsForEachSenderAndGate() {
@@ -173,17 +236,12 @@ public final class CallEdgesTest {
         x.sets(1, 4);
         int together = x.draw(999999);
         int sum = 0;
-        int least = 60;
-        int most = 0;
-        int[] drawn = new int[24];
+        int[] drawn = drawnBy(999999, 24);
         for (int k = 0; k < 24; k++) {
-            drawn[k] = x.hears(k / 4, k % 4) - 8;
+            due.is("drawn " + k, x.hears(k / 4, k % 4) - 8, drawn[k]);
             sum += drawn[k];
-            least = Math.min(least, drawn[k]);
-            most = Math.max(most, drawn[k]);
         }
         due.is("all together", together, sum);
-        due.holds("0 .. 60", least >= 0 && most <= 60 && least < most);
         // the row goes on by SENDERS, then by GATES: with 2 GATES the same numbers lie otherwise
         x.sets(1, 2);
         x.draw(999999);
@@ -478,6 +536,41 @@ public final class CallEdgesTest {
         due.windowIs("closed", x, 0, -1, -1, -1, -1);
     }
 
+    /** Windows that were heard by other gates and at other margins move up as those ahead of them close. */
+    private static void windowsMoveUp() {
+        due.sentence("Of the k-th WINDOW open (as they were opened): SENDER (0), COUNTER (1..), GATES that heard it (2, bits)");
+        StarSenders x = new StarSenders();
+        x.sets(0, 6);
+        x.sets(1, 4);
+        for (int i = 0; i < 6; i++) {
+            x.sender(i, 3, 1);
+            x.sender(i, 0, 4);
+            x.sender(i, 2, 3 * i);
+            for (int j = 0; j < 4; j++) {
+                x.gain(i, j, (i + 1 >> j & 1) == 1 ? 20 + 3 * i + j : 0);
+            }
+        }
+        x.sends(0);
+        x.sends(1);
+        x.ticks(1);
+        for (int i = 2; i < 6; i++) {
+            x.sends(i);
+        }
+        x.ticks(1);
+        for (int i = 0; i < 6; i++) {
+            due.windowIs("all", x, i, i, 3 * i, i + 1, i < 2 ? 2 : 3);
+        }
+        due.is("two close", x.ticks(2), 2);
+        for (int i = 2; i < 6; i++) {
+            due.windowIs("those that are left", x, i - 2, i, 3 * i, i + 1, 1);
+        }
+        due.is("four close", x.ticks(1), 4);
+        int[] best = {0, 1, 1, 2, 2, 2};
+        for (int i = 0; i < 6; i++) {
+            due.marginsAre("noted", x, i, 20 + 3 * i + best[i] + 8 - 20);
+        }
+    }
+
     private static void copiesNotSoMany() {
         due.sentence("Of the k-th copy on its way (as they were sent) .. NONE: not so many. BAD: k below 0, too");
         StarSenders x = new StarSenders();
@@ -489,10 +582,19 @@ public final class CallEdgesTest {
         due.copyIs("not so many", x, 2, -1, -1, -1);
         due.copyIs("not so many", x, Integer.MAX_VALUE, -1, -1, -1);
         due.copyIs("below 0", x, -1, -2, -2, -2);
-        x.ticks(5);
-        due.copyIs("the least", x, 0, 2, 1, 1);
+        x.ticks(4);
+        x.sends(0);
+        x.sends(1);
         x.ticks(1);
-        due.copyIs("it has come", x, 0, -1, -1, -1);
+        due.copyIs("the least", x, 0, 2, 1, 1);
+        due.copyIs("they move up", x, 1, 0, 1, 5);
+        due.copyIs("they move up", x, 2, 1, 1, 5);
+        due.copyIs("not so many", x, 3, -1, -1, -1);
+        x.ticks(1);
+        due.copyIs("they move up", x, 0, 0, 1, 4);
+        due.copyIs("they move up", x, 1, 1, 1, 4);
+        x.ticks(4);
+        due.copyIs("all have come", x, 0, -1, -1, -1);
     }
 
     private static void digestOfANewOne() {

@@ -73,6 +73,10 @@ public final class FaceTest {
     }
 
     private static void looksAtClasses(Due due) {
+        Set<String> publicNames = new HashSet<>();
+        for (String method : FACE) {
+            publicNames.add(method.substring(method.indexOf(' ') + 1, method.indexOf('(')));
+        }
         Class<?>[] inside = StarSenders.class.getDeclaredClasses();
         due.holds("at most twelve classes", inside.length + 1 <= 12);
         for (Class<?> c : inside) {
@@ -86,6 +90,7 @@ public final class FaceTest {
             due.holds(c + " has at most twenty fields", fields <= 20);
             for (Method method : c.getDeclaredMethods()) {
                 due.holds(method + " takes at most seven parameters", method.getParameterCount() <= 7);
+                due.holds(method + " has a name of its own", !publicNames.contains(method.getName()));
             }
         }
     }

@@ -635,7 +635,10 @@ public final class TermsEdgesTest {
         }
     }
 
-    /** 31 is taken while 0 .. 30 are open, so that 32 .. 63 may open beside them, and joinings too. */
+    /**
+     * All 64 counters and a joining of all six, open at once: 0 .. 30 open behind 31, 32 .. 63 once 31
+     * is taken, and 31 itself once more behind a joining that makes LAST 63 again.
+     */
     private static void mostWindows() {
         due.sentence("is a WINDOW open for that SENDER and COUNTER (or JOINING), it is added to it .. else .. a WINDOW opens");
         StarSenders x = new StarSenders();
@@ -645,33 +648,47 @@ public final class TermsEdgesTest {
         Due.types(x, "s0;s1;s2;s3;s4;s5;");
         join(x, 31);
         doesAndPasses(x, 1);
-        x.ticks(5);
+        x.ticks(3);
+        renewAll(x);
+        doesAndPasses(x, 1);
+        x.ticks(1);
         join(x, 0);
         for (int letters : new int[] {8, 8, 8, 7}) {
             doesAndPasses(x, letters);
         }
-        due.is("31 is taken", x.all(2), 6);
+        due.is("31 is taken at 10", x.all(2), 6);
         join(x, 32);
         for (int k = 0; k < 4; k++) {
             doesAndPasses(x, 8);
         }
-        for (int i = 0; i < 6; i++) {
-            x.renews(i);
-        }
+        due.is("JOININGS are taken at 14", x.all(3), 6);
+        join(x, 31);
+        x.does();
+        renewAll(x);
         doesAndPasses(x, 1);
-        due.allIs("all are open", x, 0, 6 * 64, 6, 0, 0, 0, 0, 0, 15);
+        due.is("all are open", x.all(1), 6 * 65);
+        due.is("none is merged", x.all(7), 0);
         due.windowIs("the first", x, 0, 0, 0, 1, 1);
         due.windowIs("0 .. 30", x, 6 * 31 - 1, 5, 30, 1, 4);
         due.windowIs("32 .. 63", x, 6 * 31, 0, 32, 1, 5);
-        due.windowIs("JOININGS", x, 6 * 63, 0, -1, 1, 9);
-        due.windowIs("the last", x, 6 * 64 - 1, 5, -1, 1, 9);
-        due.is("no more", x.window(6 * 64, 0), -1);
-        due.is("0 .. 30 are old", x.ticks(4), 0);
-        due.is("REPLAYS", x.all(4), 6 * 31);
-        due.windowIs("32 .. 63", x, 0, 0, 32, 1, 1);
-        due.windowIs("the last", x, 6 * 33 - 1, 5, -1, 1, 5);
-        due.is("32 .. 63 and the JOININGS", x.ticks(5), 6 * 33);
+        due.windowIs("32 .. 63", x, 6 * 63 - 1, 5, 63, 1, 8);
+        due.windowIs("31 once more", x, 6 * 63, 0, 31, 1, 9);
+        due.windowIs("JOININGS", x, 6 * 64, 0, -1, 1, 9);
+        due.windowIs("the last", x, 6 * 65 - 1, 5, -1, 1, 9);
+        due.is("no more", x.window(6 * 65, 0), -1);
+        due.is("0 .. 30", x.ticks(4), 6 * 31);
+        due.windowIs("32 .. 63 move up", x, 0, 0, 32, 1, 1);
+        due.windowIs("the last", x, 6 * 34 - 1, 5, -1, 1, 5);
+        due.is("32 .. 63, 31 and the JOININGS", x.ticks(5), 6 * 34);
+        due.is("no REPLAYS", x.all(4), 0);
+        due.senderIs("31 was 32 ahead twice, 32 was 2 ahead", x, 5, 0, 4, 0, x.of(5, 3), 63, 0, 65, 31 + 31 + 1);
         due.is("none is refused", x.told(0) + x.told(1) + x.told(2), 0);
+    }
+
+    private static void renewAll(StarSenders x) {
+        for (int i = 0; i < 6; i++) {
+            x.renews(i);
+        }
     }
 
     private static void join(StarSenders x, int counter) {
