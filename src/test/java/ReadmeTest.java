@@ -24,6 +24,7 @@ public final class ReadmeTest {
         String readme = Files.readString(Path.of("README.md"));
         programPrintsWhatItSays(readme);
         namesEveryCall(readme);
+        boundsAreThoseOfTheClass(readme);
         namesEveryOrder(readme);
         namesEveryTest(readme);
         due.holds("README.md names .ci/run", readme.contains("\n    .ci/run\n"));
@@ -86,6 +87,31 @@ public final class ReadmeTest {
                 due.holds("README.md has a row for " + m.getName() + "()", row.matcher(readme).find());
             }
         }
+    }
+
+    /** In the rows of sets, gate and sender: '(what: least .. most)', or '(what: least, most)' of two numbers. */
+    private static void boundsAreThoseOfTheClass(String readme) {
+        int found = 0;
+        Matcher rows = Pattern.compile("^\\| `(sets|gate|sender)\\(.*$", Pattern.MULTILINE).matcher(readme);
+        while (rows.find()) {
+            Matcher bounds = Pattern.compile("\\((\\d): (\\d+)(?: \\.\\. |, )(\\d+)\\)").matcher(rows.group());
+            while (bounds.find()) {
+                int what = Integer.parseInt(bounds.group(1));
+                int least = Integer.parseInt(bounds.group(2));
+                int most = Integer.parseInt(bounds.group(3));
+                String call = rows.group(1) + " of " + what + " at the bounds of README.md: ";
+                due.holds(call + least, isLetBy(rows.group(1), what, least) && !isLetBy(rows.group(1), what, least - 1));
+                due.holds(call + most, isLetBy(rows.group(1), what, most) && !isLetBy(rows.group(1), what, most + 1));
+                found++;
+            }
+        }
+        due.is("bounds in README.md's rows of sets, gate and sender", found, 3 + 2 + 4);
+    }
+
+    private static boolean isLetBy(String call, int what, int v) {
+        StarSenders x = new StarSenders();
+        int answer = call.equals("sets") ? x.sets(what, v) : call.equals("gate") ? x.gate(0, what, v) : x.sender(0, what, v);
+        return answer != StarSenders.BAD;
     }
 
     private static void namesEveryOrder(String readme) {
